@@ -312,7 +312,7 @@ public final class BellTower {
             return still | ((row & change) << 3) | ((row >>> 3) & change);
         }
 
-        /** The change that makes the places whose bits are set, place 1 lowest. */
+        /** The change that makes the places whose bits are set, place 1 lowest; a last place left over is made, too. */
         static int changeMaking(int made, int bells) {
             int change = 0;
             int place = 0;
@@ -722,9 +722,6 @@ public final class BellTower {
             if (firstDigit % 2 == 0) {
                 made |= 1;
             }
-            if ((bells - lastDigit) % 2 != 0) {
-                made |= 1 << (bells - 1);
-            }
             addChange(Rows.changeMaking(made, bells));
             state = AFTER_DIGITS;
         }
@@ -998,7 +995,6 @@ public final class BellTower {
             // and without end in sight, were there many of them one within another.
             if (left > 0 && size > cell(groupLeads, group)) {
                 setCell(groupTimes, group, left);
-                setCell(groupLeads, group, size);
                 return cell(groupStarts, group);
             }
             depth = group;
@@ -1111,7 +1107,6 @@ public final class BellTower {
             size++;
             rows += book.at(letter).size();
             ending = book.at(letter).following(ending, call);
-            proven = false;
         }
 
         int size() {
@@ -1195,18 +1190,16 @@ public final class BellTower {
             seen.begin(bells);
             int row = Rows.rounds(bells);
             int number = 0;
-            int next = 0;
-            for (int i = 0; i < times * size; i++) {
-                int lead = next;
-                next = lead + 1 < size ? lead + 1 : 0;
-                Method method = book.at(letterOf(lead));
-                int call = callOf(lead);
-                for (int k = 0; k < method.size(); k++) {
-                    if (seen.note(row, number) != NONE) {
-                        return number;
+            for (int time = 0; time < times; time++) {
+                for (int i = 0; i < size; i++) {
+                    Method method = book.at(letterOf(i));
+                    for (int k = 0; k < method.size(); k++) {
+                        if (seen.note(row, number) != NONE) {
+                            return number;
+                        }
+                        number++;
+                        row = Rows.changed(row, method.changeCalled(k, callOf(i)));
                     }
-                    number++;
-                    row = Rows.changed(row, method.changeCalled(k, call));
                 }
             }
             return NONE;

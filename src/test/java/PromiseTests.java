@@ -332,6 +332,11 @@ public final class PromiseTests {
         Check.due("a stray byte ahead", -1, () -> Check.compose(t, "!p"));
         Check.due("kind 1", 1, t::fault);
         Check.due("B at once", 2, () -> Check.compose(t, "2(Bp)"));
+        Check.due("each text begins with A", -1, () -> Check.compose(t, "p"));
+        Check.due("a number without a unit", -4, () -> Check.compose(t, "Bp3"));
+        Check.due("is no number of the next text", 1, () -> Check.compose(t, "Bp"));
+        Check.due("a group without its end", -4, () -> Check.compose(t, "(Bp"));
+        Check.due("is no group of the next text", 1, () -> Check.compose(t, "Bp"));
         Check.due("A is told", 1, () -> Check.method(t, 0, "x;x;x"));
         Check.due("a method goes on", 6, () -> Check.compose(t, "2(pBp)ApBp"));
         int[] due = {0, 1, 1, 1, 0, 1};
@@ -351,6 +356,7 @@ public final class PromiseTests {
         composeFault("10(99p)11b", 10, 5);
         composeFault("99(99(99(99(99p))))", 19, 5);
         composeFault(" 11(91p) ", 9, 5);
+        composeFault("10(99p)10bb", 11, 5);
         composeFault("11(91p)!", 7, 1);
         composeFault("11(91p)C", 7, 3);
         Check.due("no lead, but often", 0, () -> Check.compose(t, "99(99(99(99(99A))))"));
@@ -552,6 +558,19 @@ public final class PromiseTests {
         Check.compose(t, "C3p");
         Check.due("row 2 of three leads of one row", 2, () -> t.touch(3));
         Check.due("the END is no row", 2, () -> countRows(t, "C2p"));
+        Check.compose(t, "2s");
+        Check.due("the one ahead, asked first", 7, () -> t.touch(4));
+        t.stage(4);
+        Check.due("true without leads", 1, () -> t.touch(2));
+        Check.due("no row again", -1, () -> t.touch(3));
+        Check.due("none ahead of it", -1, () -> t.touch(4));
+        BellTower calls = Check.tower(4, "x.14;34;x");
+        Check.compose(calls, "bsp");
+        Check.due("behind a bob and a single", 4, () -> calls.touch(3));
+        Check.due("is like the row behind the bob", 2, () -> calls.touch(4));
+        Check.compose(calls, "sbp");
+        Check.due("behind a single", 2, () -> calls.touch(3));
+        Check.due("is like rounds", 0, () -> calls.touch(4));
     }
 
     private static int countRows(BellTower t, String composition) {
@@ -567,6 +586,8 @@ public final class PromiseTests {
         Check.due("bobs", 2, () -> t.touch(8));
         Check.due("singles", 4, () -> t.touch(9));
         Check.due("changes of method", 3, () -> t.touch(10));
+        Check.compose(t, "pBp");
+        Check.due("from the first lead to the next", 1, () -> t.touch(10));
         Check.compose(t, "BABp");
         Check.due("from A without a lead", 0, () -> t.touch(10));
         BellTower eight = Check.tower(8, "34.1458;x;x");
@@ -679,6 +700,16 @@ public final class PromiseTests {
         Check.due("500 leads once", 0, two::whole);
         Check.compose(two, "p");
         Check.due("x twice", 1, two::whole);
+        wholeOf(Check.tower(6, BOB_MINOR, "x16;x;x"));
+    }
+
+    private static void wholeOf(BellTower t) {
+        String[] compositions = {"2p", "pb", "bp", "4pb", "pBp", "BpAp", "ps", "4ps", "Bpb", "3b", "2bp"};
+        int[] due = {0, 1, 1, 1, 0, 0, 1, 1, 0, 1, 1};
+        for (int i = 0; i < compositions.length; i++) {
+            Check.compose(t, compositions[i]);
+            Check.due("whole " + compositions[i], due[i], t::whole);
+        }
     }
 
     private static void find() {
@@ -712,6 +743,23 @@ public final class PromiseTests {
         Check.due("all plain", 0, () -> six.touch(8) + six.touch(9));
         Check.due("Bob Minor, 3 leads", 0, () -> six.find(0, 3, 3000));
         Check.due("three bobs", 3, () -> six.touch(8));
+        findTurningBack(six);
+    }
+
+    /** What was rung on a way that led nowhere may come again on another. */
+    private static void findTurningBack(BellTower t) {
+        Check.due("4 leads", 1, () -> t.find(0, 4, 3000));
+        Check.due("40 looks", 40, () -> t.count(3));
+        Check.due("6 leads", 0, () -> t.find(0, 6, 19));
+        Check.due("19 looks", 19, () -> t.count(3));
+        int[] calls = {0, 0, 1, 0, 0, 1};
+        for (int i = 0; i < calls.length; i++) {
+            int lead = i;
+            Check.due("call " + i, calls[i], () -> t.called(lead, 2));
+        }
+        Check.due("one look less", 2, () -> t.find(0, 6, 18));
+        Check.due("7 leads", 1, () -> t.find(0, 7, 3000));
+        Check.due("778 looks", 778, () -> t.count(3));
     }
 
     private static void findLimits() {
