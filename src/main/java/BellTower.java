@@ -800,10 +800,10 @@ public final class BellTower {
                 refuse(TOO_MANY_CHANGES, at);
                 return;
             }
-            int turn = total - 1;
-            for (int i = 1; i <= back; i++) {
-                addChange(draft.changeAt(turn - i));
+            for (int i = 0; i < back; i++) {
+                draft.setChange(total + i, draft.changeAt(total - 2 - i));
             }
+            total += back;
         }
     }
 
@@ -1009,10 +1009,11 @@ public final class BellTower {
         }
     }
 
-    /** Which rows have come, each with a number; begin() forgets them all without a walk over them. */
+    /**
+     * Which rows have come, each with a number. What an earlier use left stands at or below base, so that begin()
+     * need not walk over all rows; 512 calls with some 64000 rows each stay far below the highest int.
+     */
     private static final class Seen {
-        private static final int LAST_BASE = 2000000000;
-
         private final int[] stamps = new int[ALL_ROWS];
         private int bells = 0;
         private int base = 0;
@@ -1021,17 +1022,6 @@ public final class BellTower {
         void begin(int bells) {
             this.bells = bells;
             base = top;
-            if (base > LAST_BASE) {
-                forgetAll();
-            }
-        }
-
-        private void forgetAll() {
-            for (int i = 0; i < stamps.length; i++) {
-                stamps[i] = 0;
-            }
-            base = 0;
-            top = 0;
         }
 
         /** The number that the row came with, or NONE: then it has come now. */

@@ -33,7 +33,8 @@ public final class ModelTests {
                 method(m, random.nextBoolean() ? methodText() : rungMethod());
             }
         }
-        while (calls < 500) {
+        // One step more stays within the 512 calls behind which answers are free.
+        while (calls < 440) {
             step();
         }
     }

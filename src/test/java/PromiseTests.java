@@ -348,6 +348,8 @@ public final class PromiseTests {
 
     private static void composeLimits() {
         BellTower t = Check.tower(6, BOB_MINOR);
+        Check.due("a number without a unit", -3, () -> Check.compose(t, "p2"));
+        Check.due("is gone with its text", 1, () -> Check.compose(t, "p"));
         Check.due("five deep", 32, () -> Check.compose(t, "2(2(2(2(2(p)))))"));
         Check.due("five deep twice", 2, () -> Check.compose(t, "(((((p)))))(((((p)))))"));
         Check.due("1000 leads", 1000, () -> Check.compose(t, "10(99p)10b"));

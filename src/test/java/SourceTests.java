@@ -120,8 +120,7 @@ public final class SourceTests {
         Set<String> tested = Set.of(
             "return i >= 0 && i < cells.length ? cells[i] : 0;", "cells[i] = value;",
             "return i >= 0 && i < size && i < bytes.length ? bytes[i] & 255 : END_SIGN;",
-            "bytes[size] = (byte) (number >>> shift);", "methods[m] = new Method();", "Method told = methods[m];",
-            "stamps[i] = 0;");
+            "bytes[size] = (byte) (number >>> shift);", "methods[m] = new Method();", "Method told = methods[m];");
         Pattern index = Pattern.compile("\\w\\[\\w");
         for (String line : code.split("\n")) {
             boolean asks = index.matcher(line.replaceAll("new \\w+\\[\\w+\\]", "")).find();
