@@ -578,16 +578,40 @@ public final class BellTower {
     private abstract static class Text {
         private int kind = 0;
         private int place = 0;
+        private int digitsStart = NONE;
 
-        abstract void take(int sign, int at);
+        abstract boolean isDigit(int sign);
+
+        abstract void takeDigit(int digit, boolean first, int at);
+
+        abstract void takeDigitsEnd(int start);
+
+        abstract void takeSign(int sign, int at);
 
         boolean readThrough(Tape tape) {
             kind = 0;
             place = 0;
+            digitsStart = NONE;
             for (int at = 0; at <= tape.size() && kind == 0; at++) {
                 take(tape.signAt(at), at);
             }
             return kind == 0;
+        }
+
+        private void take(int sign, int at) {
+            if (isDigit(sign)) {
+                boolean first = digitsStart == NONE;
+                digitsStart = first ? at : digitsStart;
+                takeDigit(sign - '0', first, at);
+                return;
+            }
+            if (digitsStart != NONE) {
+                takeDigitsEnd(digitsStart);
+                digitsStart = NONE;
+            }
+            if (kind == 0) {
+                takeSign(sign, at);
+            }
         }
 
         void refuse(int kind, int place) {
@@ -623,7 +647,6 @@ public final class BellTower {
         private int blockStart = 0;
         private boolean mirrored = false;
 
-        private int digitsStart = NONE;
         private boolean digitsWrong = false;
         private int firstDigit = 0;
         private int lastDigit = 0;
@@ -637,7 +660,6 @@ public final class BellTower {
             this.bells = bells;
             part = LEAD_PART;
             total = 0;
-            digitsStart = NONE;
             beginBlock();
         }
 
@@ -647,20 +669,11 @@ public final class BellTower {
             mirrored = false;
         }
 
-        void take(int sign, int at) {
-            if (sign >= '1' && sign <= '8') {
-                takeDigit(sign - '0', at);
-                return;
-            }
-            if (digitsStart != NONE) {
-                closeDigits();
-            }
-            if (kind() == 0) {
-                takeSign(sign, at);
-            }
+        boolean isDigit(int sign) {
+            return sign >= '1' && sign <= '8';
         }
 
-        private void takeSign(int sign, int at) {
+        void takeSign(int sign, int at) {
             switch (sign) {
                 case ' ':
                 case '\n':
@@ -694,14 +707,13 @@ public final class BellTower {
             return state == AFTER_CROSS || state == AFTER_DIGITS;
         }
 
-        private void takeDigit(int digit, int at) {
-            if (digitsStart == NONE) {
+        void takeDigit(int digit, boolean first, int at) {
+            if (first) {
                 boolean behindCross = part == LEAD_PART && state == AFTER_CROSS;
                 if (changeEnded() && !behindCross) {
                     refuse(STRAY_BYTE, at);
                     return;
                 }
-                digitsStart = at;
                 digitsWrong = digit > bells;
                 firstDigit = digit;
                 made = 0;
@@ -712,9 +724,7 @@ public final class BellTower {
             made |= 1 << (digit - 1);
         }
 
-        private void closeDigits() {
-            int start = digitsStart;
-            digitsStart = NONE;
+        void takeDigitsEnd(int start) {
             if (digitsWrong) {
                 refuse(WRONG_DIGITS, start);
                 return;
@@ -820,7 +830,6 @@ public final class BellTower {
         private int depth = 0;
         private boolean empty = true;
         private int number = NONE;
-        private int digitsStart = NONE;
         private int digits = 0;
 
         private final int[] groupStarts = new int[MOST_DEPTH];
@@ -851,23 +860,13 @@ public final class BellTower {
             depth = 0;
             empty = true;
             number = NONE;
-            digitsStart = NONE;
         }
 
-        void take(int sign, int at) {
-            if (sign >= '0' && sign <= '9') {
-                takeDigit(sign - '0', at);
-                return;
-            }
-            if (digitsStart != NONE) {
-                closeDigits();
-            }
-            if (kind() == 0) {
-                takeSign(sign, at);
-            }
+        boolean isDigit(int sign) {
+            return sign >= '0' && sign <= '9';
         }
 
-        private void takeSign(int sign, int at) {
+        void takeSign(int sign, int at) {
             if (sign == ' ' || sign == '\n') {
                 return;
             }
@@ -885,22 +884,19 @@ public final class BellTower {
             }
         }
 
-        private void takeDigit(int digit, int at) {
-            if (digitsStart != NONE) {
+        void takeDigit(int digit, boolean first, int at) {
+            if (!first) {
                 digits++;
                 number = digits > 2 ? MOST_TIMES + 1 : number * 10 + digit;
             } else if (number != NONE) {
                 refuse(STRAY_BYTE, at);
             } else {
-                digitsStart = at;
                 digits = 1;
                 number = digit;
             }
         }
 
-        private void closeDigits() {
-            int start = digitsStart;
-            digitsStart = NONE;
+        void takeDigitsEnd(int start) {
             if (number < 2 || number > MOST_TIMES) {
                 refuse(WRONG_DIGITS, start);
             }
