@@ -1,3 +1,6 @@
+import java.io.IOException;
+import java.nio.file.Files;
+import java.nio.file.Path;
 import java.util.function.IntSupplier;
 
 /** Compares answers with those that are due, and puts texts on a tower's tape. */
@@ -9,6 +12,7 @@ final class Check {
 
     private static int checked = 0;
     private static int wrong = 0;
+    private static String said = "";
 
     private Check() {
     }
@@ -22,12 +26,41 @@ final class Check {
         }
     }
 
+    /** The answers from here on are about this sentence, which must stand so in the document. */
+    static void says(String sentence) {
+        said = "";
+        due("the document says: " + sentence, true, document().contains(sentence));
+        said = "[" + sentence + "] ";
+    }
+
+    private static String document() {
+        try {
+            return Files.readString(Path.of("../shared/DOC.md"));
+        } catch (IOException e) {
+            return "";
+        }
+    }
+
+    /** A test that throws is one answer not as due, and does not keep the others from their turn. */
+    static void each(Runnable... tests) {
+        for (Runnable test : tests) {
+            try {
+                test.run();
+            } catch (RuntimeException e) {
+                due("a test", "throws nothing", "throws " + e);
+            }
+        }
+    }
+
     static void due(String what, String want, IntSupplier call) {
-        String got = answer(call);
+        due(what, want, answer(call));
+    }
+
+    static void due(String what, String want, String got) {
         checked++;
         if (!got.equals(want)) {
             wrong++;
-            System.out.println(what + " answered " + got + ", due is " + want);
+            System.out.println(said + what + " answered " + got + ", due is " + want);
         }
     }
 
@@ -85,6 +118,47 @@ final class Check {
             }
         }
         return tower;
+    }
+
+    static void methodFault(int bells, String text, int place, int kind) {
+        BellTower t = tower(bells);
+        due("method '" + text + "' of " + bells, -1 - place, () -> method(t, 0, text));
+        due("its kind", kind, t::fault);
+        due("the tape is empty", 0, () -> t.count(2));
+        due("it was not told", 0, () -> t.count(1));
+    }
+
+    static void composeFault(BellTower t, String text, int place, int kind) {
+        int leads = t.touch(0);
+        due("compose '" + text + "'", -1 - place, () -> compose(t, text));
+        due("its kind", kind, t::fault);
+        due("the tape is empty", 0, () -> t.count(2));
+        due("the composition stays", leads, () -> t.touch(0));
+    }
+
+    /** All that a tower answers without changing, but for most rows: some 60 calls. */
+    static String state(BellTower t) {
+        StringBuilder state = new StringBuilder();
+        state.append("fault ").append(t.fault()).append(" counts");
+        for (int what = 0; what < 4; what++) {
+            state.append(' ').append(t.count(what));
+        }
+        state.append(" touch");
+        for (int what = 0; what < 11; what++) {
+            state.append(' ').append(t.touch(what));
+        }
+        for (int i = 0; i < t.touch(0) && i < 5; i++) {
+            state.append(" lead ").append(t.called(i, 0)).append(' ').append(t.called(i, 1)).append(' ').append(t.called(i, 2));
+        }
+        for (int m = 0; m < 6; m++) {
+            state.append(" method");
+            for (int call = 0; call < 3; call++) {
+                int asked = m;
+                int as = call;
+                state.append(' ').append(answer(() -> t.head(asked, as)));
+            }
+        }
+        return state.toString();
     }
 
     static void close(String name) {

@@ -153,74 +153,66 @@ public final class PromiseTests {
         }
     }
 
-    private static void methodFault(int bells, String text, int place, int kind) {
-        BellTower t = Check.tower(bells);
-        Check.due("method '" + text + "' of " + bells, -1 - place, () -> Check.method(t, 0, text));
-        Check.due("its kind", kind, t::fault);
-        Check.due("the tape is empty", 0, () -> t.count(2));
-        Check.due("it was not told", 0, () -> t.count(1));
-    }
-
     private static void methodFaults() {
-        methodFault(6, "", 0, 1);
-        methodFault(6, "  ", 2, 1);
-        methodFault(6, "x", 1, 1);
-        methodFault(6, "x;x", 3, 1);
-        methodFault(6, "x;x;", 4, 1);
-        methodFault(6, ";x;x", 0, 1);
-        methodFault(6, ",x;x;x", 0, 1);
-        methodFault(6, "x,;x;x", 2, 1);
-        methodFault(6, "x,,x;x;x", 2, 1);
-        methodFault(6, "&;x;x", 1, 1);
-        methodFault(6, "&+x;x;x", 1, 1);
-        methodFault(6, "x&;x;x", 1, 1);
-        methodFault(6, "&.x;x;x", 1, 1);
-        methodFault(6, "x.;x;x", 2, 1);
-        methodFault(6, "x.,x;x;x", 2, 1);
-        methodFault(6, "x;;x", 2, 1);
-        methodFault(6, "x;xx;x", 3, 1);
-        methodFault(6, "x;x,x;x", 3, 1);
-        methodFault(6, "x;x.;x", 3, 1);
-        methodFault(6, "x;&x;x", 2, 1);
-        methodFault(6, "x;+x;x", 2, 1);
-        methodFault(6, "x;.x;x", 2, 1);
-        methodFault(6, "x;x;xx", 5, 1);
-        methodFault(6, "x;x;x12", 5, 1);
-        methodFault(6, "x;x;12x", 6, 1);
-        methodFault(6, "x;x;12 12", 7, 1);
-        methodFault(6, "x;x;x;", 5, 1);
-        methodFault(6, "x;x;x,", 5, 1);
-        methodFault(6, "X;x;x", 0, 1);
-        methodFault(6, "|x;x;x", 0, 1);
-        methodFault(6, "x\t;x;x", 1, 1);
-        methodFault(6, "x\r;x;x", 1, 1);
-        methodFault(6, "0;x;x", 0, 1);
-        methodFault(6, "9;x;x", 0, 1);
-        methodFault(6, "16 16;x;x", 3, 1);
+        Check.methodFault(6, "", 0, 1);
+        Check.methodFault(6, "  ", 2, 1);
+        Check.methodFault(6, "x", 1, 1);
+        Check.methodFault(6, "x;x", 3, 1);
+        Check.methodFault(6, "x;x;", 4, 1);
+        Check.methodFault(6, ";x;x", 0, 1);
+        Check.methodFault(6, ",x;x;x", 0, 1);
+        Check.methodFault(6, "x,;x;x", 2, 1);
+        Check.methodFault(6, "x,,x;x;x", 2, 1);
+        Check.methodFault(6, "&;x;x", 1, 1);
+        Check.methodFault(6, "&+x;x;x", 1, 1);
+        Check.methodFault(6, "x&;x;x", 1, 1);
+        Check.methodFault(6, "&.x;x;x", 1, 1);
+        Check.methodFault(6, "x.;x;x", 2, 1);
+        Check.methodFault(6, "x.,x;x;x", 2, 1);
+        Check.methodFault(6, "x;;x", 2, 1);
+        Check.methodFault(6, "x;xx;x", 3, 1);
+        Check.methodFault(6, "x;x,x;x", 3, 1);
+        Check.methodFault(6, "x;x.;x", 3, 1);
+        Check.methodFault(6, "x;&x;x", 2, 1);
+        Check.methodFault(6, "x;+x;x", 2, 1);
+        Check.methodFault(6, "x;.x;x", 2, 1);
+        Check.methodFault(6, "x;x;xx", 5, 1);
+        Check.methodFault(6, "x;x;x12", 5, 1);
+        Check.methodFault(6, "x;x;12x", 6, 1);
+        Check.methodFault(6, "x;x;12 12", 7, 1);
+        Check.methodFault(6, "x;x;x;", 5, 1);
+        Check.methodFault(6, "x;x;x,", 5, 1);
+        Check.methodFault(6, "X;x;x", 0, 1);
+        Check.methodFault(6, "|x;x;x", 0, 1);
+        Check.methodFault(6, "x\t;x;x", 1, 1);
+        Check.methodFault(6, "x\r;x;x", 1, 1);
+        Check.methodFault(6, "0;x;x", 0, 1);
+        Check.methodFault(6, "9;x;x", 0, 1);
+        Check.methodFault(6, "16 16;x;x", 3, 1);
     }
 
     private static void methodFaultPlaces() {
-        methodFault(6, "7;x;x", 0, 2);
-        methodFault(6, "x167;x;x", 1, 2);
-        methodFault(6, "x13;x;x", 1, 2);
-        methodFault(6, "x61;x;x", 1, 2);
-        methodFault(6, "x11;x;x", 1, 2);
-        methodFault(6, "x24;x;x", 1, 2);
-        methodFault(6, "x136!", 1, 2);
-        methodFault(6, "x130;x;x", 1, 2);
-        methodFault(6, "x120;x;x", 3, 1);
-        methodFault(6, "x;13;!", 2, 2);
-        methodFault(6, "x;x;13", 4, 2);
-        methodFault(6, "x;x;  13 ", 6, 2);
-        methodFault(5, "x;1;1", 0, 2);
-        methodFault(5, "1-;1;1", 1, 2);
-        methodFault(5, "1;x;1", 2, 2);
-        methodFault(5, "1;1;-", 4, 2);
-        methodFault(5, "1;1x;1", 3, 1);
-        methodFault(5, "13;1;1", 0, 2);
-        methodFault(5, "6;1;1", 0, 2);
-        methodFault(7, "8;1;1", 0, 2);
-        methodFault(8, "13;1;1", 0, 2);
+        Check.methodFault(6, "7;x;x", 0, 2);
+        Check.methodFault(6, "x167;x;x", 1, 2);
+        Check.methodFault(6, "x13;x;x", 1, 2);
+        Check.methodFault(6, "x61;x;x", 1, 2);
+        Check.methodFault(6, "x11;x;x", 1, 2);
+        Check.methodFault(6, "x24;x;x", 1, 2);
+        Check.methodFault(6, "x136!", 1, 2);
+        Check.methodFault(6, "x130;x;x", 1, 2);
+        Check.methodFault(6, "x120;x;x", 3, 1);
+        Check.methodFault(6, "x;13;!", 2, 2);
+        Check.methodFault(6, "x;x;13", 4, 2);
+        Check.methodFault(6, "x;x;  13 ", 6, 2);
+        Check.methodFault(5, "x;1;1", 0, 2);
+        Check.methodFault(5, "1-;1;1", 1, 2);
+        Check.methodFault(5, "1;x;1", 2, 2);
+        Check.methodFault(5, "1;1;-", 4, 2);
+        Check.methodFault(5, "1;1x;1", 3, 1);
+        Check.methodFault(5, "13;1;1", 0, 2);
+        Check.methodFault(5, "6;1;1", 0, 2);
+        Check.methodFault(7, "8;1;1", 0, 2);
+        Check.methodFault(8, "13;1;1", 0, 2);
     }
 
     private static void methodLimits() {
@@ -230,17 +222,17 @@ public final class PromiseTests {
         Check.due("row 64", 123456, () -> t.lead(0, 64));
         Check.due("63 and 1", 64, () -> Check.method(t, 0, "x".repeat(63) + ",x;x;x"));
         Check.due("&: 32 and 31, and 1", 64, () -> Check.method(t, 0, "&" + "x".repeat(32) + ",x;x;x"));
-        methodFault(6, many + "x;x;x", 65, 3);
-        methodFault(6, many + "x,x;x;x", 65, 3);
-        methodFault(6, many + ",x;x;x", 66, 3);
-        methodFault(6, many + ",x,!", 66, 3);
-        methodFault(6, "&" + "x".repeat(33) + ";x;x", 34, 3);
-        methodFault(6, "xx,&" + "x".repeat(32) + ";x;x", 36, 3);
-        methodFault(6, many + "x", 65, 1);
-        methodFault(6, many + "x13;x;x", 65, 2);
-        methodFault(6, many + "x!;x;x", 65, 1);
-        methodFault(6, "x".repeat(490) + ";x;x", 490, 3);
-        methodFault(6, "&" + "x".repeat(499), 500, 1);
+        Check.methodFault(6, many + "x;x;x", 65, 3);
+        Check.methodFault(6, many + "x,x;x;x", 65, 3);
+        Check.methodFault(6, many + ",x;x;x", 66, 3);
+        Check.methodFault(6, many + ",x,!", 66, 3);
+        Check.methodFault(6, "&" + "x".repeat(33) + ";x;x", 34, 3);
+        Check.methodFault(6, "xx,&" + "x".repeat(32) + ";x;x", 36, 3);
+        Check.methodFault(6, many + "x", 65, 1);
+        Check.methodFault(6, many + "x13;x;x", 65, 2);
+        Check.methodFault(6, many + "x!;x;x", 65, 1);
+        Check.methodFault(6, "x".repeat(490) + ";x;x", 490, 3);
+        Check.methodFault(6, "&" + "x".repeat(499), 500, 1);
     }
 
     private static void methodChangesState() {
@@ -276,10 +268,7 @@ public final class PromiseTests {
     private static void composeFault(String text, int place, int kind) {
         BellTower t = Check.tower(6, BOB_MINOR, "x16;x;x");
         Check.compose(t, "ppp");
-        Check.due("compose '" + text + "'", -1 - place, () -> Check.compose(t, text));
-        Check.due("its kind", kind, t::fault);
-        Check.due("the tape is empty", 0, () -> t.count(2));
-        Check.due("the composition stays", 3, () -> t.touch(0));
+        Check.composeFault(t, text, place, kind);
     }
 
     private static void composeFaults() {
