@@ -635,7 +635,8 @@ public final class CallEdgeTests {
     private static void touchCounts() {
         Check.says("8 how many bobs, 9 singles, 10 changes of METHOD from one LEAD to the next.");
         BellTower t = Check.tower(6, "x;x;x", "x;x;x", "x;x;x");
-        String[] texts = {"p", "b", "s", "pBp", "pBAp", "pBCp", "BpCp", "BpB", "2(pBs)", "10(99b)10s", "4(25(2(AbBbAsBp)Ab))"};
+        String[] texts = {"p", "b", "s", "pBp", "pBAp", "pBCp", "BpCp", "BpB", "2(pBs)", "10(99b)10s",
+            "4(25(2(AbBbAsBp)Ab))"};
         int[] bobs = {0, 1, 0, 0, 0, 0, 0, 0, 0, 990, 500};
         int[] singles = {0, 0, 1, 0, 0, 0, 0, 0, 2, 10, 200};
         int[] changes = {0, 0, 0, 1, 0, 1, 1, 0, 1, 0, 800};
@@ -756,7 +757,8 @@ public final class CallEdgeTests {
     private static void wholeTooLong() {
         Check.says("if that is more than 1000 LEADS, NONE.");
         BellTower two = Check.tower(6, "x;123456;x");
-        String[] texts = {"5(99p)4p", "5(99p)3pb", "5(99p)4pb", "5(99p)5p", "5(99p)6p", "5(99p)5pb", "10(99p)10p", "10(99p)9pb"};
+        String[] texts = {"5(99p)4p", "5(99p)3pb", "5(99p)4pb", "5(99p)5p", "5(99p)6p", "5(99p)5pb", "10(99p)10p",
+            "10(99p)9pb"};
         int[] leads = {499, 499, 500, 500, 501, 501, 1000, 1000};
         int[] due = {0, 0, 0, 0, -1, 0, 0, -1};
         for (int i = 0; i < texts.length; i++) {
@@ -887,7 +889,7 @@ public final class CallEdgeTests {
     private static int put(BellTower t, String text) {
         int feeds = 0;
         for (int at = 0; at < text.length(); at += 20) {
-            t.feed(Check.word(text, at), Check.word(text, at + 4), Check.word(text, at + 8), Check.word(text, at + 12), Check.word(text, at + 16));
+            Check.feed(t, text, at);
             feeds++;
         }
         t.end(text.length());

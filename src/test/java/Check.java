@@ -81,9 +81,14 @@ final class Check {
     static void append(BellTower tower, String text) {
         int before = tower.count(2);
         for (int at = 0; at < text.length(); at += 20) {
-            tower.feed(word(text, at), word(text, at + 4), word(text, at + 8), word(text, at + 12), word(text, at + 16));
+            feed(tower, text, at);
         }
         tower.end(before + text.length());
+    }
+
+    /** Twenty bytes of the text; zeros behind its end. */
+    static void feed(BellTower tower, String text, int at) {
+        tower.feed(word(text, at), word(text, at + 4), word(text, at + 8), word(text, at + 12), word(text, at + 16));
     }
 
     static int word(String text, int at) {
@@ -148,7 +153,10 @@ final class Check {
             state.append(' ').append(t.touch(what));
         }
         for (int i = 0; i < t.touch(0) && i < 5; i++) {
-            state.append(" lead ").append(t.called(i, 0)).append(' ').append(t.called(i, 1)).append(' ').append(t.called(i, 2));
+            state.append(" lead");
+            for (int what = 0; what < 4; what++) {
+                state.append(' ').append(t.called(i, what));
+            }
         }
         for (int m = 0; m < 6; m++) {
             state.append(" method");

@@ -220,7 +220,8 @@ public final class CompositionEdgeTests {
 
     private static void wrongNumbers() {
         Check.says("2 a NUMBER that is not 2 to 99 or has more than two digits (at its first);");
-        for (String number : new String[] {"0", "1", "00", "01", "000", "001", "002", "010", "099", "100", "200", "999", "1000", "4294967298"}) {
+        String[] numbers = {"0", "1", "00", "01", "000", "001", "002", "010", "099", "100", "200", "999", "1000", "4294967298"};
+        for (String number : numbers) {
             fault(number + "p", 0, 2);
             fault(" p " + number + " p", 3, 2);
             fault("2(" + number + ")", 2, 2);
